@@ -31,7 +31,7 @@ public final class PromisesTest {
         }
     }
 
-    /** Puts tokens written as words: p0 to p3, not, and, or, iff, after, k0 to k2, all1, com1, tog1 to .. 7. */
+    /** Puts a formula written in words, each token's argument as its last digit. */
     private static int put(KnownWorlds x, String formula) {
         int answer = 0;
         for (String word : formula.trim().split("\\s+")) {
@@ -499,6 +499,11 @@ public final class PromisesTest {
         due("8: facts(2)", x.facts(2), 0);
         due("8: facts(9)", x.facts(9), 11);
         due("8: classes(0) stay", x.classes(0), 2);
+        x.restart();
+        put(x, "p0 k0 not");
+        due("8: all is worked out before anything is changed", x.turn(0), 8);
+        due("8: facts(0) after it", x.facts(0), 1);
+        due("8: facts(15) after it", x.facts(15), 15);
     }
 
     private static void worldsAndFacts() {

@@ -66,10 +66,13 @@ public final class BoundaryTest {
             .with("p0 p1 and p2 and p3 and", "learn", second);
     }
 
-    // No world has a fact but world 15, which has fact 0.
-    private static Run chainToOneFact() {
-        return chain(0, 1).with(Run.exactly(15), "turn", 0)
-            .with(NEVER, "turn", 1).with(NEVER, "turn", 2).with(NEVER, "turn", 3);
+    // From now on no world has a fact but this one, which has fact 0.
+    private static Run onlyFactIn(int w, Run x) {
+        return x.with(Run.exactly(w), "turn", 0).with(NEVER, "turn", 1).with(NEVER, "turn", 2).with(NEVER, "turn", 3);
+    }
+
+    private static Run chainToFactIn(int end) {
+        return onlyFactIn(end, chain(0, 1));
     }
 
     private static void manyCalls() {
@@ -227,6 +230,11 @@ public final class BoundaryTest {
             // In the F of an AFTER, and behind it, the worlds are as they are.
             .dueWhere(Run.EVERY, "p0 p0 knows0 after p0 knows0 not after")
             .dueWhere(0, "p0 p0 knows0 after p0 knows0 and");
+        // Whatever the inner F is, no world comes back by it.
+        for (String f : new String[] {"p1", "p1 not", "p1 p2 and", "p1 p2 or", "p1 p2 iff", "p0 knows1", "p0 all7", "p0 common7",
+            "p0 together7", "p1 p2 after"}) {
+            fresh().dueWhere(Run.EVERY, "p0 " + f + " p0 knows0 after after").dueWhere(Run.EVERY, "p0 " + f + " p0 together5 after after");
+        }
         // Worlds that were taken away before stay away.
         middle().dueWhere(0x0FF0, "p0 p0 p2 p3 or and knows0 after").dueWhere(0x0550, "p0 p2 knows0 after");
         // As many in one another as the stack and the 24 tokens allow.
@@ -709,14 +717,21 @@ public final class BoundaryTest {
         Run.sentence("15: Else the least n above 0");
         for (int a = 0; a < 3; a++) {
             factOfEvenWorlds(a).due(1, "apart", 0, 1).due(1, "apart", 1, 0).due(1, "apart", 3, 0).due(1, "apart", 0, 3)
-                .due(-2, "apart", 1, 3).due(0, "apart", 2, 3);
+                .due(-2, "apart", 1, 3).due(0, "apart", 2, 3).due(1, "apart", 12, 15).due(1, "apart", 15, 12);
         }
         Run.sentence("15: a world that is at most n - 1 apart from every world in the other one's class");
-        Run x = chainToOneFact();
+        Run x = chainToFactIn(15);
         for (int w = 0; w < 15; w++) {
             x.due(14 - w, "apart", w, w + 1).due(0, "apart", w, 15);
         }
         x.due(13, "apart", 0, 2).due(1, "apart", 0, 14);
+        Run back = chainToFactIn(0);
+        for (int w = 1; w < 15; w++) {
+            back.due(w, "apart", w, w + 1).due(0, "apart", w, 0).due(w, "apart", 15, w);
+        }
+        // With world 4 away nothing parts 0 .. 3; the others are as before.
+        onlyFactIn(15, chain(0, 1).with(Run.exactly(4) + " not", "say")).due(10, "apart", 3, 5).due(10, "apart", 5, 3)
+            .due(1, "apart", 0, 14).due(9, "apart", 5, 6).due(-2, "apart", 2, 3).due(-2, "apart", 0, 3).due(12, "kinds");
         for (int a = 0; a < 3; a++) {
             // Each world has, in the other class, one with the same facts.
             fresh().with("p0", "learn", a).with(NEVER, "turn", 0).due(-2, "apart", 0, 1).due(-2, "apart", 15, 14);
@@ -739,14 +754,18 @@ public final class BoundaryTest {
         middle().due(-1, "apart", 3, 4).due(-1, "apart", 4, 3).due(-1, "apart", 3, 3).due(-1, "apart", 0, 15)
             .due(-1, "apart", 12, 11).due(-1, "apart", 11, 12).due(0, "apart", 4, 11).due(-2, "apart", 4, 4);
         // A world that is not there parts no others.
-        chainToOneFact().with("p0 not", "say").due(-2, "apart", 0, 14).due(-2, "apart", 13, 14).due(-1, "apart", 14, 15);
+        chainToFactIn(15).with("p0 not", "say").due(-2, "apart", 0, 14).due(-2, "apart", 13, 14).due(-1, "apart", 14, 15);
         Run.sentence("15: (The distance is the same both ways; a world is alike to itself.)");
         for (int w = 0; w < 16; w++) {
             fresh().due(-2, "apart", w, w);
             allTold().due(-2, "apart", w, w);
-            Run y = chainToOneFact();
+            Run y = chainToFactIn(15);
             for (int v = 0; v < w; v++) {
                 y.due(15 - w, "apart", v, w).due(15 - w, "apart", w, v);
+            }
+            Run z = chainToFactIn(0);
+            for (int v = w + 1; v < 16; v++) {
+                z.due(w, "apart", v, w).due(w, "apart", w, v);
             }
             y.due(-2, "apart", w, w);
         }
@@ -755,7 +774,7 @@ public final class BoundaryTest {
     private static void kinds() {
         Run.sentence("16: The greatest number of worlds that can be chosen so that no two of them are alike.");
         fresh().due(16, "kinds");
-        chainToOneFact().due(16, "kinds").with("p0 not", "say").due(1, "kinds");
+        chainToFactIn(15).due(16, "kinds").with("p0 not", "say").due(1, "kinds");
         for (int w = 0; w < 16; w++) {
             onlyWorld(w).due(1, "kinds");
         }
@@ -789,6 +808,9 @@ public final class BoundaryTest {
                 fresh().with("p" + p + " p" + q + " iff", "learn", a).due(1, "needed", a, p).due(1, "needed", a, q);
                 fresh().with("p" + p + " p" + q + " iff p" + r + " iff", "learn", a).due(2, "needed", a, p).due(-2, "needed", a, s);
                 fresh().with("p" + p + " p" + q + " iff p" + r + " iff p" + s + " iff", "learn", a).due(3, "needed", a, p);
+                // One fact does it, and two others do it too.
+                fresh().with("p" + p + " p" + q + " iff", "learn", a).with("p" + p + " p" + r + " iff p" + s + " iff", "learn", a)
+                    .due(1, "needed", a, p);
                 // All three are known to the agent, so saying them tells it nothing.
                 fresh().with("p" + q, "learn", a).with("p" + r, "learn", a).with("p" + s, "learn", a).due(-2, "needed", a, p);
             }
@@ -798,6 +820,11 @@ public final class BoundaryTest {
         both.due(1, "needed", 0, 0).due(-2, "needed", 0, 3).actual(15).due(3, "needed", 0, 0).due(1, "needed", 0, 3);
         fresh().actual(1).with("p0 p1 or", "say").due(1, "needed", 2, 0).due(-2, "needed", 2, 1)
             .actual(3).due(-2, "needed", 2, 0).due(-2, "needed", 2, 1).actual(2).due(-2, "needed", 2, 0).due(1, "needed", 2, 1);
+        Run.sentence("17: then agent a knows, in the actual world");
+        for (int a = 0; a < 3; a++) {
+            fresh().with("p0 p1 and", "learn", a).due(-2, "needed", a, 0).actual(3).due(0, "needed", a, 0)
+                .actual(2).due(1, "needed", a, 0).due(-2, "needed", a, 1).actual(15).due(0, "needed", a, 1);
+        }
         Run.sentence("17: -2 if that can't be reached");
         for (int a = 0; a < 3; a++) {
             for (int p = 0; p < 4; p++) {

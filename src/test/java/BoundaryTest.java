@@ -577,8 +577,16 @@ public final class BoundaryTest {
         }
         Run.sentence("8: (all worked out before anything is changed)");
         fresh().put("p0 not").due(16, "turn", 0).due(Run.P0, "where").due(1, "facts", 0).due(14, "facts", 15);
-        fresh().put("p3 knows2 not").due(8, "turn", 3).due(8, "facts", 0).due(15, "facts", 15);
-        fresh().put("p1 not common7 not").due(8, "turn", 1).due(2, "facts", 0).due(15, "facts", 15);
+        for (int p = 0; p < 4; p++) {
+            // Once the fact were so in all worlds, or in none, each formula
+            // would hold elsewhere than it did.
+            Run all = fresh().put("p" + p + " knows1 not").due(8, "turn", p);
+            Run none = fresh().put("p" + p + " not common7").due(8, "turn", p);
+            for (int w = 0; w < 16; w++) {
+                all.due(w | 1 << p, "facts", w);
+                none.due(w & ~(1 << p), "facts", w);
+            }
+        }
         chain(0, 1).put("p0 not knows1").due(9, "turn", 0);
         Run.sentence("8: p is not 0 to 3: -1");
         for (int p : Run.outside(0, 3)) {

@@ -27,6 +27,10 @@ public final class UnchangedTest {
         states.put("six formulas of 24 tokens", UnchangedTest::full);
         states.put("fewer worlds", UnchangedTest::worn);
         states.put("fewer worlds and formulas", () -> worn().put("p1 knows2").put("p0 p2 p1 knows1 after and").put("p3 p0 knows0 and"));
+        states.put("facts that hang together", () -> new Run().actual(15).with("p0 p1 p2 and p3 and iff", "say").put("p3 knows0"));
+        states.put("worlds far apart", () -> new Run().with("p1", "learn", 0).with("p2", "learn", 0).with("p0 p1 iff", "learn", 1)
+            .with("p0 p1 and p2 iff", "learn", 1).with("p2 p3 and p0 and", "turn", 3).with("p3 p1 and", "turn", 0)
+            .with("p3 p0 and", "turn", 1).with("p3 p0 and", "turn", 2).put("p0"));
         states.put("one world", () -> new Run().actual(6).with(Run.exactly(6), "say").put("p2 knows1").put("p0"));
         return states;
     }
